@@ -12,6 +12,7 @@ public final class CompassBias {
     private static final int FIRST_NEED = 5;
     private static final int GREATEST_LIMIT = 9999;
     private static final int TRIM_KEEPS = 4;
+    private static final int FEWEST_OF_A_ROUND = 3;
     // Euclid's steps for two longs stay below this.
     private static final int EUCLID_STEPS = 100;
 
@@ -219,7 +220,8 @@ public final class CompassBias {
         if (!isBetween(limit, 0, GREATEST_LIMIT) || !isBetween(what, 0, 1)) {
             return OUTSIDE;
         }
-        for (int size = 0; size <= MOST_SAMPLES; size++) {
+        int most = Integer.bitCount(now.taken) - FEWEST_OF_A_ROUND;
+        for (int size = 0; size <= most; size++) {
             int leftOut = leastSetToLeaveOut(size, limit);
             if (leftOut != NONE) {
                 return what == 0 ? size : leftOut;
