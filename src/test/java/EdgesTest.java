@@ -1,4 +1,4 @@
-/** Promises 1 to 20 at their boundaries: the last number within, the first ones outside, the ends of an int, empty, full. */
+/** Promises 1 to 20 at their boundaries: the last number within, the first outside, the ends of an int, empty, full. */
 public final class EdgesTest {
     private static final int UNKNOWN = -1, OUTSIDE = -2, STATE = -3, FULL = -4, NO = -5, NONE = -6;
     private static final long BELOW = -1000000000000000000L;
@@ -167,10 +167,10 @@ public final class EdgesTest {
 
     private static void promise5Of() {
         promise = "5 of";
-        CompassBias c = with(-40, 40, 40, -40, 0, 0, -1, 1);
+        CompassBias c = with(-40, 40, 40, -40, 0, 0, -1, 0, 3, -7);
         c.take(2, 0);
-        int[][] want = {{60, 140, 1, 3200}, {140, 60, 1, 3200}, {100, 100, 0, 0}, {99, 101, 1, 2}};
-        for (int sample = 0; sample < 4; sample++) {
+        int[][] want = {{60, 140, 1, 3200}, {140, 60, 1, 3200}, {100, 100, 0, 0}, {99, 100, 1, 1}, {103, 93, 1, 58}};
+        for (int sample = 0; sample < 5; sample++) {
             for (int what = 0; what < 4; what++) {
                 due("of(" + sample + ", " + what + ")", c.of(sample, what), want[sample][what]);
             }
@@ -179,7 +179,7 @@ public final class EdgesTest {
                 due("of(" + sample + ", " + v + ")", c.of(sample, v), OUTSIDE);
             }
         }
-        int[] unknown = {-1, 4, 9, 10, LEAST, GREATEST, 256};
+        int[] unknown = {-1, 5, 9, 10, LEAST, GREATEST, 256};
         for (int v : unknown) {
             due("of(" + v + ", 0)", c.of(v, 0), UNKNOWN);
             due("of(" + v + ", 4)", c.of(v, 4), UNKNOWN);
@@ -259,7 +259,7 @@ public final class EdgesTest {
         worstIs(with(0, 8, 3, 9, -17, -7, -11, -9, 10, -11, 18, -8), 5, 98);
         worstIs(with(-12, 0, 13, 20, -11, 9, 9, 7, 2, -3, 19, 16), 3, 138);
         worstIs(with(-40, 40, -40, 40, 2, -6, 8, -2, 5, -5, -40, 40, 4, -5, 3, -5, 40, -40, 4, -3), 8, 3239);
-        // Alike sizes: all of four, 2 and -2 by turns, then the last three of five, of which the second has the other sign.
+        // Alike sizes: all of four, 2 and -2 by turns, and the last three of five, the second with the other sign.
         worstIs(with(0, 0, 4, 0, 5, 3, 1, 3), 0, 2);
         worstIs(with(2, 4, -2, 4, 3, 0, 0, -4, -3, 0), 2, 5);
         c = with(9, 9, 2, 2, -2, 2, -2, -2, 2, -2);

@@ -13,7 +13,7 @@ import java.util.List;
 import java.util.Set;
 import java.util.TreeSet;
 
-/** The class shows the document's face and nothing else, and its text has none of the words that LANGUAGE.md rules out. */
+/** The class shows the document's face and nothing else, and keeps to what of LANGUAGE.md can be seen from outside. */
 public final class FaceTest {
     private static final String[] FACE = {"int add(int, int)", "int clear()", "int take(int, int)", "int of(int, int)",
         "long round(int, int)", "long middle(int, int)", "long off(int, int)", "int worst(int)", "int need(int)",
@@ -92,6 +92,64 @@ public final class FaceTest {
         }
     }
 
+    /** Rules 5 and 11: what is static, how many parameters, fields and classes there are. */
+    private static void bounds() {
+        List<Class<?>> all = new ArrayList<>(Arrays.asList(CompassBias.class.getDeclaredClasses()));
+        check(all.size() <= 12, "too many classes inside");
+        all.add(CompassBias.class);
+        for (Class<?> one : all) {
+            int own = 0;
+            for (Field f : one.getDeclaredFields()) {
+                boolean isConstant = Modifier.isStatic(f.getModifiers());
+                own += isConstant ? 0 : 1;
+                boolean isPlain = f.getType() == int.class || f.getType() == long.class;
+                check(!isConstant || isPlain && Modifier.isFinal(f.getModifiers()), "static: " + f.getName());
+            }
+            check(own <= 20, "too many fields in " + one.getName());
+            for (Method m : one.getDeclaredMethods()) {
+                check(m.getParameterCount() <= 7, "too many parameters: " + m.getName());
+            }
+        }
+    }
+
+    /** Rule 12: what is made is put into a final field, so it is made in a constructor: no call makes objects. */
+    private static void making(String code) {
+        for (String line : code.split("\n")) {
+            if (line.matches(".*\\bnew\\b.*")) {
+                boolean isPutInField = line.matches(" +\\w+ = new \\w+(\\(\\)|\\[MOST_SAMPLES\\]);");
+                String field = line.trim().replaceAll("\\W.*", "");
+                check(isPutInField && isFinalField(field), "makes an object: " + line);
+            }
+        }
+    }
+
+    private static boolean isFinalField(String name) {
+        List<Class<?>> all = new ArrayList<>(Arrays.asList(CompassBias.class.getDeclaredClasses()));
+        all.add(CompassBias.class);
+        for (Class<?> one : all) {
+            for (Field f : one.getDeclaredFields()) {
+                if (f.getName().equals(name) && Modifier.isFinal(f.getModifiers())) {
+                    return true;
+                }
+            }
+        }
+        return false;
+    }
+
+    /** Rule 11: methods of some sixty lines at most; each ends at the brace that stands below its beginning. */
+    private static void lengths(String text) {
+        String[] lines = text.split("\n");
+        for (int i = 0; i < lines.length; i++) {
+            String indent = lines[i].replaceAll("\\S.*", "");
+            boolean begins = lines[i].matches(" +(public|private|static|void|int|long|boolean)[^=;]*\\) \\{");
+            int length = 1;
+            while (begins && i + length < lines.length && !lines[i + length].equals(indent + "}")) {
+                length++;
+            }
+            check(length < 60, "a long method: " + lines[i]);
+        }
+    }
+
     private static void text() throws IOException {
         String text = Files.readString(Path.of("src/main/java/CompassBias.java"));
         String code = text.replaceAll("(?s)/\\*.*?\\*/", " ").replaceAll("//[^\n]*", " ");
@@ -101,6 +159,8 @@ public final class FaceTest {
         }
         check(!code.contains("->") && !code.contains("::"), "the text has a lambda or a method reference");
         check(!code.contains("Exact("), "the text has a function whose name ends in Exact");
+        making(code);
+        lengths(text);
         check(text.chars().allMatch(sign -> sign == '\n' || sign >= 32 && sign < 127), "the text has another sign");
     }
 
@@ -108,6 +168,7 @@ public final class FaceTest {
         methods();
         fields();
         classes();
+        bounds();
         text();
         for (String fault : faults) {
             System.out.println(fault);

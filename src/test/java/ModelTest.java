@@ -16,10 +16,11 @@ public final class ModelTest {
     private static final int HELPS = 700;
 
     /** How often each of what is rare was met: the runs are worth nothing where it never was. */
-    private static final int[] met = new int[10];
+    private static final int[] met = new int[13];
     private static final String[] RARE = {"a sample on the middle", "points on the middle", "helps that are some, not all",
         "trim of two or more", "fewest of two or more", "tie for the worst", "off in fractions", "full", "helps with 9",
-        "flat with five or more"};
+        "flat with five or more", "trim of ten down to four", "helps that are none, though enough are taken",
+        "fewest down to three of six or more"};
 
     record Place(int x, int y) {
         long power() {
@@ -331,6 +332,7 @@ public final class ModelTest {
             }
         }
         met[2] += set != 0 && set != 255 ? 1 : 0;
+        met[11] += set == 0 && m.takenPlaces().size() + 1 >= Math.max(m.need, 3) ? 1 : 0;
         met[8] += set != 0 && m.places.size() == 9 ? 1 : 0;
         return set;
     }
@@ -357,6 +359,7 @@ public final class ModelTest {
             out++;
         }
         met[3] += out > 1 ? 1 : 0;
+        met[10] += out == 6 ? 1 : 0;
         return out;
     }
 
@@ -381,6 +384,7 @@ public final class ModelTest {
             }
         }
         met[4] += best != NONE && few > 1 ? 1 : 0;
+        met[12] += few > 2 && few == m.takenPlaces().size() - 3 ? 1 : 0;
         return best == NONE ? NONE : what == 0 ? few : best;
     }
 
@@ -491,6 +495,9 @@ public final class ModelTest {
         int[] p = place(kind);
         switch (random.nextInt(27)) {
             case 0: case 1: case 2: case 3: case 4:
+                if (random.nextInt(8) == 0) {
+                    p = nearMiddle(m, p);
+                }
                 due(run, "add(" + p[0] + ", " + p[1] + ")", c.add(p[0], p[1]), add(m, p[0], p[1]));
                 break;
             case 5:

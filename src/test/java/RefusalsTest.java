@@ -200,9 +200,9 @@ public final class RefusalsTest {
         }
         int least = call.least(argument);
         int greatest = call.greatest(argument, s);
-        TreeSet<Integer> all = new TreeSet<>(Arrays.asList(Integer.MIN_VALUE, Integer.MIN_VALUE + 1, Integer.MAX_VALUE - 1,
-            Integer.MAX_VALUE, -1, 0, least - 1, least, least + 1, greatest - 1, greatest, greatest + 1, greatest + 2,
-            least - 32, least + 32, least + 256, least + 65536, 10));
+        TreeSet<Integer> all = new TreeSet<>(Arrays.asList(Integer.MIN_VALUE, Integer.MIN_VALUE + 1,
+            Integer.MAX_VALUE - 1, Integer.MAX_VALUE, -1, 0, 10, least - 1, least, least + 1, greatest - 1, greatest,
+            greatest + 1, greatest + 2, least - 32, least + 32, least + 256, least + 65536));
         return all.stream().mapToInt(Integer::intValue).toArray();
     }
 

@@ -1,10 +1,14 @@
-/** The document's terms at their boundaries, sentence by sentence: refusals, fractions, FLAT, EIGHTHS, POOR, TRIM, FEWEST. */
+/** The document's terms at their boundaries, by sentence: refusals, fractions, FLAT, EIGHTHS, POOR, TRIM, FEWEST. */
 public final class TermsTest {
     private static final int UNKNOWN = -1, OUTSIDE = -2, STATE = -3, FULL = -4, NO = -5, NONE = -6;
     private static final int[] SQUARE = {2, 2, -2, 2, -2, -2, 2, -2};
     private static final int[] UNIT = {0, 0, 1, 0, 0, 1, 1, 1};
-    private static final int[] TEN_ANYWHERE = {33, -36, 14, 21, 33, -39, -14, 19, 22, -5, -20, -36, 26, 22, 1, -31, -9, 6,
-        -35, 13};
+    private static final int[] TEN_ANYWHERE = {33, -36, 14, 21, 33, -39, -14, 19, 22, -5, -20, -36, 26, 22, 1, -31, -9,
+        6, -35, 13};
+
+    interface Ask {
+        long to(CompassBias c);
+    }
 
     private static int checks = 0;
     private static int wrong = 0;
@@ -87,6 +91,58 @@ public final class TermsTest {
         due("middle(0, 0)", c.middle(0, 0), -1000000000000000005L);
     }
 
+    private static final String[] ASKED = {"count(4)", "round(0, 0)", "round(2, 1)", "middle(0, 1)", "off(0, 0)",
+        "off(0, 1)", "worst(0)", "worst(1)", "cover()", "poor()", "eighth(1)", "points(4, 5)", "helps()",
+        "fewest(0, 0)", "fewest(0, 1)", "trim(0)"};
+    private static final Ask[] ASKS = {c -> c.count(4), c -> c.round(0, 0), c -> c.round(2, 1), c -> c.middle(0, 1),
+        c -> c.off(0, 0), c -> c.off(0, 1), c -> c.worst(0), c -> c.worst(1), c -> c.cover(), c -> c.poor(),
+        c -> c.eighth(1), c -> c.points(4, 5), c -> c.helps(), c -> c.fewest(0, 0), c -> c.fewest(0, 1),
+        c -> c.trim(0)};
+
+    private static void askAll(CompassBias c) {
+        for (Ask ask : ASKS) {
+            ask.to(c);
+        }
+    }
+
+    /** Each is asked first after the change: none may go by what another one has found out. */
+    private static void asThingsAre() {
+        sentence = "all that is told is as things are when it is asked";
+        long[] first = {0, 6, 1, 1, 0, 1, 0, 0, 85, 0, 2, 0, 255, 0, 0, 0};
+        long[] withOneMore = {0, 54671, 711, 2844, -87290, 237, 0, 368, 49, 1, 4, NO, 254, 1, 16, 1};
+        long below = -1000000000000000005L;
+        long[] flat = {1, below, below, below, below, below, NO, NO, NO, 1, NO, NO, 0, NONE, NONE, NO};
+        for (int i = 0; i < ASKS.length; i++) {
+            CompassBias c = with(13, 5, 3, 15, -7, 5, 3, -5);
+            c.need(4);
+            due(ASKED[i], ASKS[i].to(c), first[i]);
+            c.image(0);
+            askAll(c);
+            due("add(40, 40)", c.add(40, 40), 4);
+            due(ASKED[i] + " with one more", ASKS[i].to(c), withOneMore[i]);
+            askAll(c);
+            c.restore(0);
+            due(ASKED[i] + " restored", ASKS[i].to(c), first[i]);
+            askAll(c);
+            c.take(0, 0);
+            c.take(2, 0);
+            due(ASKED[i] + " by two", ASKS[i].to(c), flat[i]);
+            askAll(c);
+            c.take(2, 1);
+            c.take(0, 1);
+            due(ASKED[i] + ", all taken again", ASKS[i].to(c), first[i]);
+        }
+        CompassBias c = with(13, 5, 3, 15, -7, 5, 3, -5);
+        due("poor(), need 5", c.poor(), 1);
+        due("points(4, 5), need 5", c.points(4, 5), NO);
+        c.need(4);
+        due("poor(), need 4", c.poor(), 0);
+        due("points(4, 5), need 4", c.points(4, 5), 0);
+        c.clear();
+        due("poor(), cleared", c.poor(), 1);
+        due("fewest(0, 0), cleared", c.fewest(0, 0), NONE);
+    }
+
     private static void fraction(String call, long upper, long lower, long wantUpper, long wantLower) {
         due(call + ", upper", upper, wantUpper);
         due(call + ", lower", lower, wantLower);
@@ -98,7 +154,8 @@ public final class TermsTest {
             fraction("round(" + what + ")", c.round(what, 0), c.round(what, 1), want[2 * what], want[2 * what + 1]);
         }
         for (int what = 0; what < 2; what++) {
-            fraction("middle(" + what + ")", c.middle(what, 0), c.middle(what, 1), want[6 + 2 * what], want[7 + 2 * what]);
+            int at = 6 + 2 * what;
+            fraction("middle(" + what + ")", c.middle(what, 0), c.middle(what, 1), want[at], want[at + 1]);
         }
     }
 
@@ -119,8 +176,8 @@ public final class TermsTest {
         // Halving an even upper number, an odd one, and where the lower number is even.
         fraction("middle", with(2, -2, 1, 1, -3, -3, 4, 0, 4, 3).middle(0, 0),
             with(2, -2, 1, 1, -3, -3, 4, 0, 4, 3).middle(0, 1), -2, 233);
-        fraction("middle", with(4, -3, -3, -1, 1, -3, -3, 3).middle(0, 0), with(4, -3, -3, -1, 1, -3, -3, 3).middle(0, 1),
-            523, 350);
+        fraction("middle", with(4, -3, -3, -1, 1, -3, -3, 3).middle(0, 0),
+            with(4, -3, -3, -1, 1, -3, -3, 3).middle(0, 1), 523, 350);
         c = with(-4, -3, -4, 2, -2, -4, 0, 0);
         fraction("round(0)", c.round(0, 0), c.round(0, 1), -53, 10);
         fraction("middle(0)", c.middle(0, 0), c.middle(0, 1), -53, 20);
@@ -426,6 +483,7 @@ public final class TermsTest {
     public static void main(String[] args) {
         theFirstRefusalThatFits();
         belowAndTheRefusal();
+        asThingsAre();
         fractionsInLowestTerms();
         greatestNumbers();
         flat();
