@@ -8,10 +8,14 @@ import java.nio.file.Files;
 import java.nio.file.Path;
 import java.util.ArrayList;
 import java.util.Arrays;
+import java.util.HashMap;
 import java.util.HashSet;
 import java.util.List;
+import java.util.Map;
 import java.util.Set;
 import java.util.TreeSet;
+import java.util.regex.Matcher;
+import java.util.regex.Pattern;
 
 /** The class shows the document's face and nothing else, and keeps to what of LANGUAGE.md can be seen from outside. */
 public final class FaceTest {
@@ -22,6 +26,8 @@ public final class FaceTest {
     private static final String[] CONSTANTS = {"UNKNOWN", "OUTSIDE", "STATE", "FULL", "NO", "NONE", "BELOW"};
     private static final String[] RULED_OUT = {"throw", "throws", "try", "catch", "finally", "synchronized", "assert",
         "import", "package", "hashCode", "toString", "double", "float", "volatile", "native", "System", "Thread"};
+    private static final List<String> LIBRARY = List.of("Integer.bitCount", "Math.abs");
+    private static final List<String> STATEMENTS = List.of("if", "for", "while", "switch");
 
     private static final List<String> faults = new ArrayList<>();
 
@@ -150,6 +156,58 @@ public final class FaceTest {
         }
     }
 
+    /** Rule 4: of the library only these; any other that LANGUAGE.md lists can be put beside them when it is used. */
+    private static void library(String code) {
+        Matcher use = Pattern.compile("\\b([A-Z]\\w*[a-z]\\w*\\.\\w+)").matcher(code);
+        while (use.find()) {
+            check(LIBRARY.contains(use.group(1)), "the text uses " + use.group(1));
+        }
+    }
+
+    /** Rule 9: every loop counts up to a bound in its own line. */
+    private static void loops(String code) {
+        for (String line : code.split("\n")) {
+            if (line.matches(".*\\b(for|while|do)\\b.*")) {
+                boolean counts = line.matches(" +for \\(int (\\w+) = -?\\w+; \\1 <=? \\w+( && [^;]*)?; \\1\\+\\+\\) \\{");
+                check(counts, "a loop without a counter and a bound: " + line);
+            }
+        }
+    }
+
+    /** Rules 8 and 11: no recursion, and calls at most eight deep. Methods of one name count as one. */
+    private static void depths(String code) {
+        Map<String, Set<String>> calls = new HashMap<>();
+        Pattern begin = Pattern.compile("^ +(?:[\\w\\[\\]]+ )*(\\w+)\\([^;=]*\\) \\{$");
+        Pattern call = Pattern.compile("(\\w+)\\(");
+        String method = "";
+        for (String line : code.split("\n")) {
+            Matcher begins = begin.matcher(line);
+            if (begins.find() && !STATEMENTS.contains(begins.group(1))) {
+                method = begins.group(1);
+                calls.putIfAbsent(method, new HashSet<>());
+                continue;
+            }
+            Matcher called = call.matcher(line);
+            while (called.find() && !method.isEmpty()) {
+                calls.get(method).add(called.group(1));
+            }
+        }
+        check(calls.keySet().containsAll(Arrays.asList("helps", "eighthTowards", "become")), "the methods are not found");
+        for (String each : calls.keySet()) {
+            check(depthOf(each, calls, 0) <= 8, "calls that go too deep, or a recursion, from " + each);
+        }
+    }
+
+    private static int depthOf(String method, Map<String, Set<String>> calls, int above) {
+        int deepest = 0;
+        if (above <= 8) {
+            for (String called : calls.getOrDefault(method, Set.of())) {
+                deepest = Math.max(deepest, calls.containsKey(called) ? depthOf(called, calls, above + 1) : 0);
+            }
+        }
+        return deepest + 1;
+    }
+
     private static void text() throws IOException {
         String text = Files.readString(Path.of("src/main/java/CompassBias.java"));
         String code = text.replaceAll("(?s)/\\*.*?\\*/", " ").replaceAll("//[^\n]*", " ");
@@ -159,6 +217,9 @@ public final class FaceTest {
         }
         check(!code.contains("->") && !code.contains("::"), "the text has a lambda or a method reference");
         check(!code.contains("Exact("), "the text has a function whose name ends in Exact");
+        library(code);
+        loops(code);
+        depths(code);
         making(code);
         lengths(text);
         check(text.chars().allMatch(sign -> sign == '\n' || sign >= 32 && sign < 127), "the text has another sign");
